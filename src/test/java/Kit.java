@@ -1,0 +1,205 @@
+import java.io.ByteArrayOutputStream;
+import java.nio.charset.StandardCharsets;
+import java.util.NoSuchElementException;
+import java.util.TreeMap;
+import java.util.function.IntSupplier;
+
+/** What the tests share: answers that are due, texts and records put on a tape. */
+final class Kit {
+    static int checks;
+    static int wrong;
+
+    private Kit() {
+    }
+
+    static void due(String call, long got, long want) {
+        checks++;
+        if (got != want) {
+            wrong++;
+            System.out.println(call + " answered " + got + ", due is " + want);
+        }
+    }
+
+    static void due(String call, boolean got, boolean want) {
+        due(call, got ? 1 : 0, want ? 1 : 0);
+    }
+
+    /** The call must throw NoSuchElementException and nothing else. */
+    static void none(String call, IntSupplier asked) {
+        checks++;
+        String got;
+        try {
+            got = "answered " + asked.getAsInt();
+        } catch (NoSuchElementException e) {
+            return;
+        } catch (RuntimeException e) {
+            got = "threw " + e;
+        }
+        wrong++;
+        System.out.println(call + " " + got + ", due is a NoSuchElementException");
+    }
+
+    static void finish(String name) {
+        System.out.println(name + ": " + checks + " answers looked at, " + wrong + " not as due");
+        if (wrong != 0) {
+            System.exit(1);
+        }
+    }
+
+    static byte[] bytesOf(String text) {
+        return text.getBytes(StandardCharsets.ISO_8859_1);
+    }
+
+    /** Puts bytes behind an empty tape. */
+    static void put(WatchHouse house, byte[] bytes) {
+        for (int at = 0; at < bytes.length; at += 20) {
+            int[] five = new int[5];
+            for (int k = 0; k < 20; k++) {
+                int octet = at + k < bytes.length ? bytes[at + k] & 255 : 0;
+                five[k / 4] = five[k / 4] << 8 | octet;
+            }
+            house.feed(five[0], five[1], five[2], five[3], five[4]);
+        }
+        house.end(bytes.length);
+    }
+
+    static int rules(WatchHouse house, String text) {
+        put(house, bytesOf(text));
+        return house.rules();
+    }
+
+    static WatchHouse houseOf(String text) {
+        WatchHouse house = new WatchHouse();
+        int answer = rules(house, text);
+        if (answer < 0) {
+            due("rules of " + text, answer, 0);
+        }
+        return house;
+    }
+
+    static int take(WatchHouse house, byte[]... records) {
+        put(house, join(records));
+        return house.take();
+    }
+
+    static byte[] join(byte[]... parts) {
+        ByteArrayOutputStream out = new ByteArrayOutputStream();
+        for (byte[] part : parts) {
+            out.write(part, 0, part.length);
+        }
+        return out.toByteArray();
+    }
+
+    static byte[] bytes(int... octets) {
+        byte[] row = new byte[octets.length];
+        for (int k = 0; k < octets.length; k++) {
+            row[k] = (byte) octets[k];
+        }
+        return row;
+    }
+
+    /** Asks for the fault that a text of rules has: its kind and its place. */
+    static void faulty(String text, int kind, int place) {
+        WatchHouse house = new WatchHouse();
+        due("rules of " + text, rules(house, text), -1 - place);
+        due("fault of " + text, house.fault(), kind);
+        due("place behind " + text, house.place(), -1);
+        due("tape behind " + text, house.count(6), 0);
+        due("rules held behind " + text, house.count(0), 0);
+    }
+
+    static void fine(String text, int count) {
+        WatchHouse house = new WatchHouse();
+        due("rules of " + text, rules(house, text), count);
+        due("fault of " + text, house.fault(), 0);
+        due("count(0) of " + text, house.count(0), count);
+    }
+
+    static void unsigned(ByteArrayOutputStream out, long amount) {
+        long rest = amount;
+        while (rest > 127) {
+            out.write((int) (rest % 128) + 128);
+            rest /= 128;
+        }
+        out.write((int) rest);
+    }
+
+    static int check(byte[] bytes, int length) {
+        int c = 0;
+        for (int k = 0; k < length; k++) {
+            c ^= bytes[k] & 255;
+            for (int bit = 0; bit < 8; bit++) {
+                c = 2 * c;
+                if (c > 255) {
+                    c ^= 263;
+                }
+            }
+        }
+        return c;
+    }
+
+    /** The bytes with the CHECK of them behind. */
+    static byte[] checked(byte[] bytes) {
+        return join(bytes, bytes(check(bytes, bytes.length)));
+    }
+
+    /**
+     * A record of a time after the one ahead, a kind, and fields as name and value in turn:
+     * an Integer is an INT, a String a TEXT, an int[] of four an ADDRESS.
+     */
+    static byte[] record(long after, String kind, Object... fields) {
+        TreeMap<String, Object> sorted = new TreeMap<>();
+        for (int k = 0; k < fields.length; k += 2) {
+            sorted.put((String) fields[k], fields[k + 1]);
+        }
+        return recordOf(after, kind, sorted);
+    }
+
+    static byte[] recordOf(long after, String kind, TreeMap<String, Object> fields) {
+        ByteArrayOutputStream out = new ByteArrayOutputStream();
+        out.write(229);
+        unsigned(out, after);
+        word(out, kind);
+        out.write(fields.size());
+        for (String name : fields.keySet()) {
+            word(out, name);
+            value(out, fields.get(name));
+        }
+        return checked(out.toByteArray());
+    }
+
+    static void word(ByteArrayOutputStream out, String word) {
+        out.write(word.length());
+        out.writeBytes(bytesOf(word));
+    }
+
+    static void value(ByteArrayOutputStream out, Object value) {
+        if (value instanceof Integer) {
+            long v = (Integer) value;
+            out.write(0);
+            unsigned(out, v < 0 ? -2 * v - 1 : 2 * v);
+        } else if (value instanceof String) {
+            out.write(1);
+            word(out, (String) value);
+        } else {
+            out.write(2);
+            for (int octet : (int[]) value) {
+                out.write(octet);
+            }
+        }
+    }
+
+    static int[] address(int a, int b, int c, int d) {
+        return new int[] {a, b, c, d};
+    }
+
+    /** Alert i of a house must be as told. */
+    static void alert(WatchHouse house, int i, int rule, int time, int start, int event, int hushed) {
+        String call = "alert(" + i + ", ";
+        due(call + "0)", house.alert(i, 0), rule);
+        due(call + "1)", house.alert(i, 1), time);
+        due(call + "2)", house.alert(i, 2), start);
+        due(call + "3)", house.alert(i, 3), event);
+        due(call + "4)", house.alert(i, 4), hushed);
+    }
+}
