@@ -1,5 +1,6 @@
 import java.io.ByteArrayOutputStream;
 import java.nio.charset.StandardCharsets;
+import java.util.List;
 import java.util.NoSuchElementException;
 import java.util.TreeMap;
 import java.util.function.IntSupplier;
@@ -145,7 +146,7 @@ final class Kit {
 
     /**
      * A record of a time after the one ahead, a kind, and fields as name and value in turn:
-     * an Integer is an INT, a String a TEXT, an int[] of four an ADDRESS.
+     * an Integer is an INT, a String a TEXT, a List of four numbers an ADDRESS.
      */
     static byte[] record(long after, String kind, Object... fields) {
         TreeMap<String, Object> sorted = new TreeMap<>();
@@ -183,14 +184,14 @@ final class Kit {
             word(out, (String) value);
         } else {
             out.write(2);
-            for (int octet : (int[]) value) {
-                out.write(octet);
+            for (Object octet : (List<?>) value) {
+                out.write((Integer) octet);
             }
         }
     }
 
-    static int[] address(int a, int b, int c, int d) {
-        return new int[] {a, b, c, d};
+    static List<Integer> address(int a, int b, int c, int d) {
+        return List.of(a, b, c, d);
     }
 
     /** Alert i of a house must be as told. */
