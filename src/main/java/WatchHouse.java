@@ -22,6 +22,13 @@ public final class WatchHouse {
     private static final int NAME_LETTERS = 8;
     private static final int BYTES_MOST = 24;
     private static final int NESTED_MOST = 12;
+    private static final int COUNT_MOST = 1000;
+    private static final int SUM_MOST = 2147483647;
+    private static final int SECONDS_MOST = 1000000;
+    private static final int BITS_MOST = 32;
+
+    /** The bytes of a value that is no TEXT. */
+    private static final int[] NO_BYTES = {};
 
     /** The word alert, as words are held. */
     private static final long ALERT_KIND = 49735996165586944L;
@@ -582,7 +589,7 @@ public final class WatchHouse {
             places = new int[TEXT_MOST + 1];
             amounts = new long[TEXT_MOST + 1];
             reserved = new long[RESERVED_WORDS];
-            bytes = new int[0];
+            bytes = NO_BYTES;
             int word = 0;
             int index = 0;
             for (int k = 0; k < RESERVED.length() && word < RESERVED_WORDS; k++) {
@@ -846,10 +853,10 @@ public final class WatchHouse {
                 readBy(rule);
             }
             skip(WITHIN);
-            rule.within = readNumber(1, 1000000);
+            rule.within = readNumber(1, SECONDS_MOST);
             if (kind == QUIET) {
                 step();
-                rule.quiet = readNumber(0, 1000000);
+                rule.quiet = readNumber(0, SECONDS_MOST);
             }
             skip(SEMICOLON);
             if (fault == 0) {
@@ -921,7 +928,7 @@ public final class WatchHouse {
                 case DISTINCT:
                 case SUM:
                     step();
-                    rule.number = readNumber(1, rule.what == SUM ? Integer.MAX_VALUE : 1000);
+                    rule.number = readNumber(1, rule.what == SUM ? SUM_MOST : COUNT_MOST);
                     if (rule.what != COUNT) {
                         rule.field = readName();
                     }
@@ -1037,7 +1044,7 @@ public final class WatchHouse {
                     step();
                     value = readValue(ADDRESS_TOKEN);
                     skip(SLASH);
-                    bits = readNumber(0, 32);
+                    bits = readNumber(0, BITS_MOST);
                     break;
                 case EQUAL:
                 case UNEQUAL:
@@ -1067,7 +1074,7 @@ public final class WatchHouse {
             int amount = (int) scanner.amounts[at];
             int first = scanner.places[at] + 1;
             int length = kind == TEXT_TOKEN ? Math.max(amount, 0) : 0;
-            int[] text = new int[length];
+            int[] text = length == 0 ? NO_BYTES : new int[length];
             for (int k = 0; k < length && first + k < scanner.bytes.length; k++) {
                 text[k] = scanner.bytes[first + k];
             }
@@ -1140,7 +1147,7 @@ public final class WatchHouse {
 
         /** The KEY of an EVENT; null if the EVENT lacks a FIELD of it. */
         Key keyOf(Event event) {
-            for (int k = 0; k < byCount; k++) {
+            for (int k = 0; k < byCount && k < by.length; k++) {
                 wanted[k] = event.find(by[k]);
                 if (wanted[k] == null) {
                     return null;
@@ -1533,7 +1540,7 @@ public final class WatchHouse {
 
         Records() {
             packed = new int[PACKED_MOST];
-            bytes = new int[0];
+            bytes = NO_BYTES;
             place = NONE;
         }
 
@@ -1617,17 +1624,17 @@ public final class WatchHouse {
             if (sort == INT) {
                 long folded = readUnsigned();
                 long number = (folded & 1) == 0 ? folded >> 1 : -(folded >> 1) - 1;
-                return new Value(INT, (int) number, new int[0]);
+                return new Value(INT, (int) number, NO_BYTES);
             }
             if (sort == ADDRESS) {
                 int address = 0;
                 for (int k = 0; k < 4; k++) {
                     address = address << 8 | nextByte(0, 255);
                 }
-                return new Value(ADDRESS, address, new int[0]);
+                return new Value(ADDRESS, address, NO_BYTES);
             }
             int length = nextByte(0, BYTES_MOST);
-            int[] text = new int[length];
+            int[] text = length == 0 ? NO_BYTES : new int[length];
             for (int k = 0; k < length; k++) {
                 text[k] = nextByte(32, 126);
             }

@@ -1,10 +1,12 @@
 import java.util.ArrayList;
 import java.util.List;
 import java.util.Random;
-import java.util.TreeMap;
 import java.util.regex.Pattern;
 
-/** Promises 4, 7 to 14: random rules and records, answered as a model answers that keeps all. */
+/**
+ * Promises 4, 7 to 14: random rules and records, answered as a model answers that keeps all. It asks
+ * more often than 512 times: what the class answers does not hang on how often it was asked.
+ */
 public final class ModelTest {
     private static final String[] NAMES = {"a", "ab", "b", "user"};
     private static final String[] KINDS = {"x", "y", "z", "alert", "rule"};
