@@ -212,6 +212,9 @@ public final class FindTest {
                 Kit.record(0, "x", "k", Kit.address(0, 0, 0, 1), "u", "a"), Kit.record(0, "x", "k", 1, "u", "b"),
                 Kit.record(0, "x", "k", 1), Kit.record(0, "x", "u", "a"));
         Kit.due("all keys differ", house.count(3), 0);
+        WatchHouse alike = Kit.houseOf("rule a count 2 of kind = x by k within 10;");
+        Kit.take(alike, Kit.record(0, "x", "k", "Aa"), Kit.record(0, "x", "k", "BB"), Kit.record(0, "x", "k", "Aa"));
+        Kit.due("keys that look alike", alike.rule(0, 1), 1);
         Kit.due("those that lack one are not looked at", house.rule(0, 0), 4);
         Kit.take(house, Kit.record(0, "x", "k", 1, "u", "a"));
         Kit.alert(house, 0, 0, 0, 0, 6, 0);
@@ -318,6 +321,11 @@ public final class FindTest {
         holds("f like \"*\"", false, "f", 5);
         holds("f like \"*a*a*a*a*a*a*a*b\"", false, "f", "aaaaaaaaaaaaaaaaaaaaaaaa");
         holds("f like \"a\"", false, "f", "A");
+        holds("f like \"ab*bc\"", false, "f", "abc");
+        holds("f like \"ab*bc\"", true, "f", "abbc");
+        // texts of one length whose bytes 31 times over come to the same
+        holds("f = \"Aa\"", false, "f", "BB");
+        holds("f != \"Aa\"", true, "f", "BB");
         holds("f in 10.1.0.0/16", true, "f", Kit.address(10, 1, 255, 3));
         holds("f in 10.1.0.0/16", false, "f", Kit.address(10, 0, 255, 3));
         holds("f in 200.1.0.0/1", true, "f", Kit.address(128, 0, 0, 0));

@@ -20,15 +20,22 @@ public final class ModelTest {
     private Model model;
     private final int seed;
 
-    private ModelTest(int seed) {
+    private ModelTest(int seed, Random random) {
         this.seed = seed;
-        random = new Random(seed);
+        this.random = random;
+    }
+
+    /** A text of some rules. */
+    static String randomText(Random random) {
+        ModelTest test = new ModelTest(0, random);
+        test.makeRules(1 + random.nextInt(random.nextInt(4) == 0 ? 12 : 3));
+        return test.text.toString();
     }
 
     public static void main(String[] args) {
         int runs = args.length > 0 ? Integer.parseInt(args[0]) : 1500;
         for (int seed = 0; seed < runs && Kit.wrong == 0; seed++) {
-            new ModelTest(seed).run();
+            new ModelTest(seed, new Random(seed)).run();
         }
         Kit.finish("ModelTest");
     }
@@ -40,8 +47,7 @@ public final class ModelTest {
         Kit.due("seed " + seed + ": " + call, got, want);
     }
 
-    private void run() {
-        int count = 1 + random.nextInt(seed % 10 == 0 ? 12 : 4);
+    private void makeRules(int count) {
         for (int r = 0; r < count; r++) {
             Model.Rule rule = randomRule(r);
             String told = textOf(rule);
@@ -51,6 +57,10 @@ public final class ModelTest {
             text.append(told);
             rules.add(rule);
         }
+    }
+
+    private void run() {
+        makeRules(1 + random.nextInt(seed % 10 == 0 ? 12 : 4));
         due("rules()", Kit.rules(house, text.toString()), rules.size());
         model = new Model(rules);
         int steps = 5 + random.nextInt(40);

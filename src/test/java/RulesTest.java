@@ -1,5 +1,6 @@
 /** Promises 4 and 5: the text of rules, its tokens, its grammar, its faults. */
 public final class RulesTest {
+    private static final String BEGIN = "rule a count 1 of ";
     private static final String TAIL = " within 1;";
 
     public static void main(String[] args) {
@@ -11,18 +12,19 @@ public final class RulesTest {
         twice();
         leastKindOfOneToken();
         tooLong();
+        cutOff();
         whatStays();
         whatIsForgotten();
         Kit.finish("RulesTest");
     }
 
     private static String cond(String cond) {
-        return "rule a count 1 of " + cond + TAIL;
+        return BEGIN + cond + TAIL;
     }
 
-    /** A cond behind "rule a count 1 of ", 18 bytes, with a fault at a place within it. */
+    /** A cond with a fault at a place within it. */
     private static void badCond(String cond, int kind, int place) {
-        Kit.faulty(cond(cond), kind, 18 + place);
+        Kit.faulty(cond(cond), kind, BEGIN.length() + place);
     }
 
     private static void fineTexts() {
@@ -104,6 +106,9 @@ public final class RulesTest {
         Kit.faulty("rule count count 1 of has x within 1;", 2, 5);
         Kit.faulty("rule \"a\" count 1 of has x within 1;", 2, 5);
         Kit.faulty("rule a of 1 of has x within 1;", 2, 7);
+        Kit.faulty("rule a within 1;", 2, 7);
+        Kit.faulty("rule a by u within 1;", 2, 7);
+        Kit.faulty("rule within 1;", 2, 5);
         Kit.faulty("rule a count x of has x within 1;", 2, 13);
         Kit.faulty("rule a count 1 x of has x within 1;", 2, 15);
         Kit.faulty("rule a distinct 1 of has x within 1;", 2, 18);
@@ -144,6 +149,10 @@ public final class RulesTest {
         badCond("a in 1.2.3.4/x", 2, 13);
         badCond("a = b", 2, 4);
         badCond("a = has", 2, 4);
+        badCond("a =", 2, 4);
+        badCond("a like", 2, 7);
+        badCond("a <", 2, 4);
+        badCond("a = and has x", 2, 4);
         badCond("a < \"x\"", 2, 4);
         badCond("a >= 1.2.3.4", 2, 5);
         badCond("a <= x", 2, 5);
@@ -242,6 +251,27 @@ public final class RulesTest {
         Kit.faulty("rule a count 0" + " ".repeat(2000), 3, 13);
         Kit.faulty(" ".repeat(1999) + "! ", 1, 1999);
         Kit.faulty(" ".repeat(1999) + "; ", 2, 1999);
+    }
+
+    /** Bytes that end() has cut off belong to no token. */
+    private static void cutOff() {
+        cut("rule", "x count 1", 2, 4);
+        cut("rule a count 1000", "0 of", 2, 17);
+        cut(BEGIN + "a = 1.2.3.25", "6 within", 2, 30);
+        cut(BEGIN + "a = 1", ".2.3.4", 2, 23);
+        cut(BEGIN + "a = \"x", "\" within", 1, 22);
+        cut(BEGIN + "a !", "= 1", 1, 20);
+        cut(BEGIN + "has x within 1", ";", 2, 32);
+        Kit.faulty(";".repeat(2000), 2, 0);
+        Kit.faulty(";".repeat(2001), 2, 0);
+    }
+
+    private static void cut(String kept, String off, int kind, int place) {
+        WatchHouse house = new WatchHouse();
+        Kit.put(house, Kit.bytesOf(kept + off));
+        house.end(kept.length());
+        Kit.due("rules of " + kept, house.rules(), -1 - place);
+        Kit.due("fault of " + kept, house.fault(), kind);
     }
 
     private static void whatStays() {
