@@ -603,12 +603,13 @@ public final class WatchHouse {
             }
         }
 
+        /** A TOKEN that begins ahead of TEXT_MOST is made of all its bytes, also those behind that place. */
         void scan(int[] tape, int size) {
             bytes = tape;
-            limit = Math.min(Math.min(size, TEXT_MOST), tape.length);
+            limit = Math.min(size, tape.length);
             tokens = 0;
             int at = 0;
-            while (at < limit) {
+            while (at < limit && at < TEXT_MOST) {
                 if (bytes[at] == 32 || bytes[at] == 10) {
                     at++;
                     continue;
@@ -620,7 +621,11 @@ public final class WatchHouse {
                 }
                 at = behind;
             }
-            put(size > TEXT_MOST ? BAD : END, limit, 0);
+            if (limit > TEXT_MOST) {
+                put(BAD, TEXT_MOST, 0);
+            } else {
+                put(END, limit, 0);
+            }
         }
 
         private void put(int kind, int start, long amount) {

@@ -12,6 +12,11 @@ public final class RulesTest {
         twice();
         leastKindOfOneToken();
         tooLong();
+        wordsAcross();
+        numbersAcross();
+        addressesAcross();
+        textsAcross();
+        signsAcross();
         cutOff();
         whatStays();
         whatIsForgotten();
@@ -251,6 +256,101 @@ public final class RulesTest {
         Kit.faulty("rule a count 0" + " ".repeat(2000), 3, 13);
         Kit.faulty(" ".repeat(1999) + "! ", 1, 1999);
         Kit.faulty(" ".repeat(1999) + "; ", 2, 1999);
+    }
+
+    /** A token that begins ahead of place 2000 is what all its bytes make of it, also those behind. */
+    private static void wordsAcross() {
+        fineAcross("", "rule", "");
+        fineAcross("rule a ", "count", " 1");
+        fineAcross("rule ", "abcdefgh", " count 1 of");
+        fineAcross("rule a count 1 of has x by u, ", "vv", "");
+        fineAcross("rule ab count 1 of has x within 1; rule ", "abc", " count");
+        fineAcross(BEGIN + "kind = ", "within", " within 1;");
+        faultyAcross("", "rulex", " a", 2);
+        faultyAcross(BEGIN + "has ", "by", " within 1;", 2);
+        faultyAcross("rule ab count 1 of has x within 1; rule ", "ab", " count", 5);
+        faultyAcross("rule ab count 1 of has x within 1; rule b count 1 of alert ", "abc", " within", 5);
+        faultyAcross("rule a count 1 of has x by uv, ", "uv", " within", 5);
+        faultyAcross("rule a count 1 of has x by u, v, w, ", "xy", " within", 4);
+        faultyAcross("rule ", "abcdefghi", " count", 1);
+        faultyAcross("rule ", "abc1", " count", 1);
+        faultyAcross("rule ", "a".repeat(100), "", 1);
+    }
+
+    private static void numbersAcross() {
+        fineAcross("rule a count ", "1000", " of");
+        fineAcross("rule a count ", "01", " of");
+        fineAcross(BEGIN + "a = ", "-2147483648", " within");
+        fineAcross(BEGIN + "a = ", "2147483647", ";");
+        fineAcross(BEGIN + "a = ", "12", "\"x\"");
+        faultyAcross("rule a count ", "1001", " of", 3);
+        faultyAcross("rule a count ", "-1", " of", 3);
+        faultyAcross("rule a count 1 of has x within ", "10000000", ";", 3);
+        faultyAcross(BEGIN + "a in 1.2.3.4/", "33", " within", 3);
+        faultyAcross(BEGIN + "a = ", "2147483648", " within", 1);
+        faultyAcross(BEGIN + "a = ", "00000000001", " within", 1);
+        faultyAcross(BEGIN + "a = ", "12x", " within", 1);
+        faultyAcross(BEGIN + "a = ", "-x", " within", 1);
+        faultyAcross(BEGIN + "a = ", "-\n", "1 within", 1);
+        faultyAcross(BEGIN + "a = ", "1".repeat(100), "", 1);
+    }
+
+    private static void addressesAcross() {
+        fineAcross(BEGIN + "a = ", "1.20.255.4", " within");
+        fineAcross(BEGIN + "a in ", "10.0.0.0", "/8 within");
+        faultyAcross(BEGIN + "a < ", "1.2.3.4", " within", 2);
+        faultyAcross("rule a count ", "1.2.3.4", " of", 2);
+        faultyAcross(BEGIN + "a = ", "1.2.3.256", " within", 1);
+        faultyAcross(BEGIN + "a = ", "1.2.3.0004", " within", 1);
+        faultyAcross(BEGIN + "a = ", "1.2.3", " within", 1);
+        faultyAcross(BEGIN + "a = ", "1.2.3.4.", " within", 1);
+        faultyAcross(BEGIN + "a = ", "1.2.3.4.5", " within", 1);
+        faultyAcross(BEGIN + "a = ", "1.2.3.4x", " within", 1);
+        faultyAcross(BEGIN + "a = ", "1.".repeat(50), "", 1);
+    }
+
+    private static void textsAcross() {
+        fineAcross(BEGIN + "a = ", "\"\"", " within");
+        fineAcross(BEGIN + "a = ", "\"fourteen bytes\"", " within 5;");
+        fineAcross(BEGIN + "a like ", "\"" + "*".repeat(24) + "\"", " within");
+        faultyAcross(BEGIN + "a < ", "\"x\"", " within", 2);
+        faultyAcross(BEGIN + "a = ", "\"" + "x".repeat(25) + "\"", " within", 1);
+        faultyAcross(BEGIN + "a = ", "\"x\ny\"", " within", 1);
+        faultyAcross(BEGIN + "a = ", "\"x", "", 1);
+        faultyAcross(BEGIN + "a = ", "\"" + "x".repeat(99), "", 1);
+    }
+
+    private static void signsAcross() {
+        fineAcross(BEGIN + "a ", "!=", " 1");
+        fineAcross(BEGIN + "a ", "<=", " 1");
+        fineAcross(BEGIN + "a ", ">=", " 1");
+        faultyAcross(BEGIN, "!=", " 1", 2);
+        faultyAcross(BEGIN + "kind ", "<=", " 1", 2);
+        faultyAcross(BEGIN + "a ", "!x", " 1", 1);
+        faultyAcross(BEGIN + "a ", "! ", "= 1", 1);
+        // a sign of one byte ends there, whatever is behind it
+        fineAcross(BEGIN + "a ", "==", " 1");
+        fineAcross(BEGIN + "a ", "<!", " 1");
+        fineAcross(BEGIN, "(!", " 1");
+    }
+
+    /** Wherever the token lies across place 2000: nothing is wrong ahead of it. */
+    private static void fineAcross(String head, String token, String behind) {
+        for (int ahead = 1; ahead < token.length(); ahead++) {
+            Kit.faulty(placed(head, 2000 - ahead, token + behind), 1, 2000);
+        }
+    }
+
+    private static void faultyAcross(String head, String token, String behind, int kind) {
+        for (int ahead = 1; ahead < token.length(); ahead++) {
+            Kit.faulty(placed(head, 2000 - ahead, token + behind), kind, 2000 - ahead);
+        }
+        // it begins at 2000, or is all behind it: then it does not matter any more
+        Kit.faulty(placed(head, 2000, token + behind), 1, 2000);
+    }
+
+    private static String placed(String head, int place, String rest) {
+        return head + " ".repeat(place - head.length()) + rest;
     }
 
     /** Bytes that end() has cut off belong to no token. */

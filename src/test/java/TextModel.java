@@ -24,8 +24,9 @@ final class TextModel {
     private static final Set<String> QUOTED = Set.of("rule", "by", "within", "quiet", "count", "of", "distinct", "sum",
             "chain", "then", "unless", "lack", "or", "and", "not", "kind", "has", "alert", "like", "in");
 
+    private static final int MOST = 2000;
+
     private final String text;
-    private final int length;
     private int at;
     private String token;
     private char sort;
@@ -33,8 +34,7 @@ final class TextModel {
     private final List<String> names = new ArrayList<>();
 
     private TextModel(String whole) {
-        text = whole.substring(0, Math.min(2000, whole.length()));
-        length = whole.length();
+        text = whole;
         next();
     }
 
@@ -51,10 +51,10 @@ final class TextModel {
         while (at < text.length() && (text.charAt(at) == ' ' || text.charAt(at) == '\n')) {
             at++;
         }
-        place = at;
+        place = Math.min(at, MOST);
         token = "";
-        if (at >= text.length()) {
-            sort = length > 2000 ? 'b' : 'e';
+        if (at >= text.length() || at >= MOST) {
+            sort = text.length() > MOST ? 'b' : 'e';
             return;
         }
         Matcher matcher = TOKEN.matcher(text);

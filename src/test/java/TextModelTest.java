@@ -72,7 +72,22 @@ public final class TextModelTest {
                     break;
             }
         }
+        if (random.nextInt(4) == 0 && !parts.isEmpty()) {
+            putAcross(parts);
+        }
         String joined = String.join("", parts);
         return joined.substring(0, Math.min(2100, joined.length()));
+    }
+
+    /** Blanks ahead of one part, so that it lies round place 2000, where a text has too many bytes. */
+    private void putAcross(List<String> parts) {
+        int at = random.nextInt(parts.size());
+        String part = parts.get(at).strip();
+        if (random.nextInt(4) == 0) {
+            part = piece();
+        }
+        int ahead = String.join("", parts.subList(0, at)).length();
+        int blanks = 2000 - random.nextInt(part.length() + 2) - ahead;
+        parts.set(at, " ".repeat(Math.max(0, blanks)) + part + (random.nextBoolean() ? " " : ""));
     }
 }
