@@ -1,7 +1,9 @@
 import java.io.ByteArrayOutputStream;
 import java.nio.charset.StandardCharsets;
+import java.util.HashSet;
 import java.util.List;
 import java.util.NoSuchElementException;
+import java.util.Set;
 import java.util.TreeMap;
 import java.util.function.IntSupplier;
 
@@ -9,16 +11,35 @@ import java.util.function.IntSupplier;
 final class Kit {
     static int checks;
     static int wrong;
+    private static final Set<String> SENTENCES = new HashSet<>();
+    /** The promise and the words of the document that the answers asked for now stand for. */
+    private static String stands = "";
 
     private Kit() {
+    }
+
+    /** What is asked from here on stands for these words of a promise. */
+    static void sentence(int promise, String words) {
+        sentence(promise, "Promise " + promise + ":", words);
+    }
+
+    /** The same for words that a promise leans on, and that stand in another part of the document. */
+    static void sentence(int promise, String part, String words) {
+        stands = "promise " + promise + ", " + part + " \"" + words + "\": ";
+        SENTENCES.add(stands);
+        due("these words in the document", Doc.says(part, words), true);
     }
 
     static void due(String call, long got, long want) {
         checks++;
         if (got != want) {
-            wrong++;
-            System.out.println(call + " answered " + got + ", due is " + want);
+            tell(call + " answered " + got + ", due is " + want);
         }
+    }
+
+    private static void tell(String fault) {
+        wrong++;
+        System.out.println(stands + fault);
     }
 
     static void due(String call, boolean got, boolean want) {
@@ -36,12 +57,12 @@ final class Kit {
         } catch (RuntimeException e) {
             got = "threw " + e;
         }
-        wrong++;
-        System.out.println(call + " " + got + ", due is a NoSuchElementException");
+        tell(call + " " + got + ", due is a NoSuchElementException");
     }
 
     static void finish(String name) {
-        System.out.println(name + ": " + checks + " answers looked at, " + wrong + " not as due");
+        String of = SENTENCES.isEmpty() ? "" : " of " + SENTENCES.size() + " sentences";
+        System.out.println(name + ": " + checks + " answers" + of + " looked at, " + wrong + " not as due");
         if (wrong != 0) {
             System.exit(1);
         }
@@ -114,6 +135,53 @@ final class Kit {
         due("rules of " + text, rules(house, text), count);
         due("fault of " + text, house.fault(), 0);
         due("count(0) of " + text, house.count(0), count);
+    }
+
+    private static final String BEGIN = "rule a count 1 of ";
+
+    /** A text of one rule with a cond. */
+    static String cond(String cond) {
+        return BEGIN + cond + " within 1;";
+    }
+
+    static void fineCond(String cond) {
+        fine(cond(cond), 1);
+    }
+
+    /** A cond with a fault at a place within it. */
+    static void faultyCond(String cond, int kind, int place) {
+        faulty(cond(cond), kind, BEGIN.length() + place);
+    }
+
+    /** Bytes that are one record: it comes, and is packed to the same bytes again. */
+    static void comes(String name, byte[] bytes) {
+        WatchHouse house = new WatchHouse();
+        due("take of " + name, take(house, bytes), 1);
+        due("fault of " + name, house.fault(), 0);
+        due("place of " + name, house.place(), -1);
+        due("events behind " + name, house.count(1), 1);
+        packs("pack of " + name, house, 0, bytes);
+    }
+
+    /** Bytes that have a fault at their first record: nothing comes of them. */
+    static void stops(String name, byte[] bytes, int fault, int place) {
+        WatchHouse house = new WatchHouse();
+        due("take of " + name, take(house, bytes), 0);
+        due("fault of " + name, house.fault(), fault);
+        due("place of " + name, house.place(), place);
+        due("tape behind " + name, house.count(6), 0);
+        due("events behind " + name, house.count(1), 0);
+        due("now behind " + name, house.count(5), 0);
+    }
+
+    /** Event i must be packed to these bytes. */
+    static void packs(String call, WatchHouse house, int i, byte[] want) {
+        int size = house.pack(i);
+        due(call, size, want.length);
+        due(call + " count(7)", house.count(7), want.length);
+        for (int k = 0; k < Math.min(size, want.length); k++) {
+            due(call + " octet(" + k + ")", house.octet(k), want[k] & 255);
+        }
     }
 
     static void unsigned(ByteArrayOutputStream out, long amount) {
@@ -192,6 +260,25 @@ final class Kit {
 
     static List<Integer> address(int a, int b, int c, int d) {
         return List.of(a, b, c, d);
+    }
+
+    /** So many rules that each find every x, so that 4000 events come of few records. */
+    static String fillers(int count) {
+        StringBuilder text = new StringBuilder();
+        for (int k = 0; k < count; k++) {
+            text.append("rule f").append((char) ('a' + k)).append(" count 1 of kind = x within 1;");
+        }
+        return text.toString();
+    }
+
+    /** So many records of a kind come, as many at once as a tape has room for. */
+    static void fill(WatchHouse house, int records, byte[] one) {
+        int room = 2100 / one.length;
+        for (int come = 0; come < records; come += room) {
+            byte[][] row = new byte[Math.min(room, records - come)][];
+            java.util.Arrays.fill(row, one);
+            due("so many at once", take(house, row), row.length);
+        }
     }
 
     /** Alert i of a house must be as told. */

@@ -1,16 +1,20 @@
-/** Promises 4 and 5: the text of rules, its tokens, its grammar, its faults. */
+/** Promise 4: rules(), the grammar, and texts that are too long; each test names the sentence that it stands for. */
 public final class RulesTest {
     private static final String BEGIN = "rule a count 1 of ";
-    private static final String TAIL = " within 1;";
+    private static final String GRAMMAR = "RULE: 'rule' NAME WHAT [ 'by' NAME { , NAME } ] 'within' NUMBER"
+            + " [ 'quiet' NUMBER ] ;";
+    private static final String TOO_LONG = "(More than 2000 bytes: FAULT 1 at 2000, if none is ahead of it.)";
+    private static final String TEXT = "The tape (empty then) is a TEXT: how many RULES there are now";
+    private static final String FORGOTTEN = "all EVENTS and ALERTS forgotten, NOW 0 (their numbers begin anew, and 4000 may"
+            + " come; the RECORD packed latest stays)";
+    private static final String STAYS = "or -1 - the place of its FAULT: all stays.";
 
     public static void main(String[] args) {
+        emptyThen();
+        howMany();
         fineTexts();
-        tokens();
         grammar();
-        numbers();
-        tooMany();
-        twice();
-        leastKindOfOneToken();
+        conditions();
         tooLong();
         wordsAcross();
         numbersAcross();
@@ -18,21 +22,41 @@ public final class RulesTest {
         textsAcross();
         signsAcross();
         cutOff();
+        firstAndLastPlace();
         whatStays();
         whatIsForgotten();
+        fourThousandAnew();
         Kit.finish("RulesTest");
     }
 
-    private static String cond(String cond) {
-        return BEGIN + cond + TAIL;
+    private static void emptyThen() {
+        Kit.sentence(4, TEXT);
+        WatchHouse house = new WatchHouse();
+        Kit.due("a fine text", Kit.rules(house, "rule a count 1 of has x within 1;"), 1);
+        Kit.due("the tape behind it", house.count(6), 0);
+        Kit.due("a bad text", Kit.rules(house, "rule a count 1 of has x within 0;"), -32);
+        Kit.due("the tape behind that", house.count(6), 0);
+        Kit.due("nothing is left to keep", house.end(1), false);
+        Kit.due("a full tape", Kit.rules(house, " ".repeat(2100)), -2001);
+        Kit.due("the tape behind a full one", house.count(6), 0);
+        Kit.due("all of it may be fed again", house.feed(0, 0, 0, 0, 0), 20);
     }
 
-    /** A cond with a fault at a place within it. */
-    private static void badCond(String cond, int kind, int place) {
-        Kit.faulty(cond(cond), kind, BEGIN.length() + place);
+    private static void howMany() {
+        Kit.sentence(4, TEXT);
+        WatchHouse house = new WatchHouse();
+        Kit.due("an empty tape has none", house.rules(), 0);
+        Kit.due("two", Kit.rules(house, "rule a count 1 of has x within 1;rule b count 1 of has x within 1;"), 2);
+        Kit.due("two are there", house.count(0), 2);
+        Kit.due("one instead of two", Kit.rules(house, "rule b count 1 of has x within 1;"), 1);
+        Kit.due("one is there", house.count(0), 1);
+        Kit.due("blanks instead of one", Kit.rules(house, " "), 0);
+        Kit.due("none is there", house.count(0), 0);
+        Kit.none("none to ask", () -> house.rule(0, 0));
     }
 
     private static void fineTexts() {
+        Kit.sentence(4, "2. RULES", GRAMMAR);
         Kit.fine("", 0);
         Kit.fine(" \n \n", 0);
         Kit.fine("rule a count 1 of has x within 1;", 1);
@@ -40,66 +64,19 @@ public final class RulesTest {
         Kit.fine("rule a distinct 1 x of has x within 1 quiet 0;rule b sum 2147483647 x of has x within 1;", 2);
         Kit.fine("rule a chain has x within 1;\nrule b chain has x then has y then has z then has x then has y"
                 + " unless alert a by q within 7;\nrule c lack alert b then alert a by q within 7;", 3);
-        Kit.fine(cond("kind=x and has y or not(z<1)and not not w!=\"\""), 1);
-        Kit.fine(cond("kind = rule or kind = kind or kind = within"), 1);
-        Kit.fine(cond("a like \"*?\" and b in 1.2.3.4/0 and b in 255.255.255.255/32"), 1);
-        Kit.fine(cond("a = -2147483648 or a = 2147483647 or a = 0000000001 or a = -0"), 1);
-        Kit.fine(cond("a = 0.0.0.0 or a = 001.02.3.255 or a != 1.1.1.1"), 1);
-        Kit.fine(cond("a < 1 or a <= 1 or a > 1 or a >= 1 or a=1"), 1);
-        Kit.fine(cond("abcdefgh = \"123456789012345678901234\""), 1);
-        Kit.fine(cond("a = \"\" or a = \" ~!#;,()\""), 1);
+        Kit.fineCond("kind=x and has y or not(z<1)and not not w!=\"\"");
+        Kit.fineCond("kind = rule or kind = kind or kind = within");
+        Kit.fineCond("a like \"*?\" and b in 1.2.3.4/0 and b in 255.255.255.255/32");
+        Kit.fineCond("a = -2147483648 or a = 2147483647 or a = 0000000001 or a = -0");
+        Kit.fineCond("a = 0.0.0.0 or a = 001.02.3.255 or a != 1.1.1.1");
+        Kit.fineCond("a < 1 or a <= 1 or a > 1 or a >= 1 or a=1");
+        Kit.fineCond("abcdefgh = \"123456789012345678901234\"");
+        Kit.fineCond("a = \"\" or a = \" ~!#;,()\"");
         Kit.fine("rule rules count 1 of has ins within 1;", 1);
     }
 
-    private static void tokens() {
-        Kit.faulty("!", 1, 0);
-        Kit.faulty("\t", 1, 0);
-        Kit.faulty("\r", 1, 0);
-        Kit.faulty("rule A", 1, 5);
-        Kit.faulty("rule abcdefghi count", 1, 5);
-        Kit.faulty("rule a1 count", 1, 5);
-        Kit.faulty("rule 1a count", 1, 5);
-        Kit.faulty("rule a_b", 1, 6);
-        badCond("a ! 1", 1, 2);
-        badCond("a = -", 1, 4);
-        badCond("a = - 1", 1, 4);
-        badCond("a = --1", 1, 4);
-        badCond("a = 12345678901", 1, 4);
-        badCond("a = 00000000001", 1, 4);
-        badCond("a = 2147483648", 1, 4);
-        badCond("a = -2147483649", 1, 4);
-        badCond("a = 1x", 1, 4);
-        badCond("a = -1x", 1, 4);
-        badCond("a = +1", 1, 4);
-        badCond("a = 1.2.3", 1, 4);
-        badCond("a = 1.2.3.4.5", 1, 4);
-        badCond("a = 1.2.3.4.", 1, 4);
-        badCond("a = 1.2.3.256", 1, 4);
-        badCond("a = 1.2.3.0001", 1, 4);
-        badCond("a = 1..3.4", 1, 4);
-        badCond("a = 1.2.3.4x", 1, 4);
-        badCond("a = 1.x.3.4", 1, 4);
-        badCond("a = 1. 2.3.4", 1, 4);
-        badCond("a = .1.2.3", 1, 4);
-        badCond("a = -1.2.3.4", 1, 6);
-        badCond("a = 1 .2", 1, 6);
-        badCond("a = \"b", 1, 4);
-        badCond("a = \"1234567890123456789012345\"", 1, 4);
-        badCond("a = \"b\nc\"", 1, 4);
-        badCond("a = \"b\u007fc\"", 1, 4);
-        badCond("a = \"b\u00e9c\"", 1, 4);
-        badCond("a = 'b'", 1, 4);
-        badCond("a = \"b\"\"", 1, 7);
-        // of a sign as much as can be, and no more
-        badCond("a <== 1", 2, 4);
-        badCond("a == 1", 2, 3);
-        badCond("a =! 1", 1, 3);
-        badCond("a != = 1", 2, 5);
-        badCond("a => 1", 2, 3);
-        badCond("a <> 1", 2, 3);
-    }
-
     private static void grammar() {
+        Kit.sentence(4, "2. RULES", GRAMMAR);
         Kit.faulty("rule", 2, 4);
         Kit.faulty("rule ", 2, 5);
         Kit.faulty("rule a", 2, 6);
@@ -136,116 +113,48 @@ public final class RulesTest {
         Kit.faulty("rule a count 1 of has x quiet 1 within 1;", 2, 24);
         Kit.faulty("rule a count 1 of has x within 1 by u;", 2, 33);
         Kit.faulty("rule a count 1 of has x within 1;;", 2, 33);
-        badCond("", 2, 1);
-        badCond("has", 2, 4);
-        badCond("has of", 2, 4);
-        badCond("has \"x\"", 2, 4);
-        badCond("kind x", 2, 5);
-        badCond("kind != x", 2, 5);
-        badCond("kind = \"x\"", 2, 7);
-        badCond("kind = 1", 2, 7);
-        badCond("alert", 2, 6);
-        badCond("alert 1", 2, 6);
-        badCond("a", 2, 2);
-        badCond("a like 1", 2, 7);
-        badCond("a like b", 2, 7);
-        badCond("a in 1/2", 2, 5);
-        badCond("a in 1.2.3.4", 2, 13);
-        badCond("a in 1.2.3.4/x", 2, 13);
-        badCond("a = b", 2, 4);
-        badCond("a = has", 2, 4);
-        badCond("a =", 2, 4);
-        badCond("a like", 2, 7);
-        badCond("a <", 2, 4);
-        badCond("a = and has x", 2, 4);
-        badCond("a < \"x\"", 2, 4);
-        badCond("a >= 1.2.3.4", 2, 5);
-        badCond("a <= x", 2, 5);
-        badCond("1 = a", 2, 0);
-        badCond("(has x", 2, 7);
-        badCond("has x)", 2, 5);
-        badCond("()", 2, 1);
-        badCond("not", 2, 4);
-        badCond("has x and", 2, 10);
-        badCond("has x or or has y", 2, 9);
-        badCond("has x has y", 2, 6);
-        badCond("and has x", 2, 0);
     }
 
-    private static void numbers() {
-        Kit.faulty("rule a count 0 of has x within 1;", 3, 13);
-        Kit.faulty("rule a count -1 of has x within 1;", 3, 13);
-        Kit.faulty("rule a count 1001 of has x within 1;", 3, 13);
-        Kit.faulty("rule a distinct 0 x of has x within 1;", 3, 16);
-        Kit.faulty("rule a distinct 1001 x of has x within 1;", 3, 16);
-        Kit.fine("rule a distinct 1000 x of has x within 1;", 1);
-        Kit.faulty("rule a sum 0 x of has x within 1;", 3, 11);
-        Kit.faulty("rule a sum -2147483648 x of has x within 1;", 3, 11);
-        Kit.faulty("rule a count 1 of has x within 0;", 3, 31);
-        Kit.faulty("rule a count 1 of has x within 1000001;", 3, 31);
-        Kit.faulty("rule a count 1 of has x within 1 quiet -1;", 3, 39);
-        Kit.faulty("rule a count 1 of has x within 1 quiet 1000001;", 3, 39);
-        badCond("a in 1.2.3.4/33", 3, 13);
-        badCond("a in 1.2.3.4/-1", 3, 13);
-        badCond("a in 1.2.3.4 / 2147483647", 3, 15);
-    }
-
-    private static void tooMany() {
-        StringBuilder twelve = new StringBuilder();
-        for (char c = 'a'; c < 'a' + 12; c++) {
-            twelve.append("rule ").append(c).append(" count 1 of has x within 1;");
-        }
-        Kit.fine(twelve.toString(), 12);
-        Kit.faulty(twelve + " rule m count 1 of has x within 1;", 4, twelve.length() + 1);
-        Kit.faulty(twelve + "rule", 4, twelve.length());
-        Kit.faulty(twelve + "a", 2, twelve.length());
-        Kit.faulty("rule a count 1 of has x by u, v, w, y within 1;", 4, 36);
-        Kit.faulty("rule a count 1 of has x by u, v, w, u within 1;", 4, 36);
-        Kit.faulty("rule a count 1 of has x by u, v, w, within 1;", 2, 36);
-        Kit.faulty("rule a chain has x then has x then has x then has x then has x then has x within 1;", 4, 63);
-        Kit.fine("rule a chain has x then has x then has x then has x then has x unless has x within 1;", 1);
-        String open = "(".repeat(13);
-        String close = ")".repeat(13);
-        Kit.fine(cond(open + "has x" + close), 1);
-        badCond(open + "(has x)" + close, 4, 13);
-        badCond(open + "not has x" + close, 4, 13);
-        Kit.fine(cond("not ".repeat(13) + "has x"), 1);
-        badCond("not ".repeat(14) + "has x", 4, 52);
-        badCond("not ".repeat(13) + "(has x)", 4, 52);
-        Kit.fine(cond("not (".repeat(6) + "not has x" + ")".repeat(6)), 1);
-        // a not ends with its ONE, a ( with its ): those behind do not lie in them
-        Kit.fine(cond("not has x and ".repeat(20) + "has x"), 1);
-        Kit.fine(cond("(has x) or ".repeat(20) + "not (has x)"), 1);
-        Kit.fine(cond(open + "has x" + close + " and " + open + "has x" + close), 1);
-        // twelve nots ahead of a ( whose inside has a not: that one lies in thirteen
-        badCond("not ".repeat(12) + "(not has x)", 4, 49);
-    }
-
-    private static void twice() {
-        Kit.faulty("rule a count 1 of has x within 1; rule a count 1 of has x within 1;", 5, 39);
-        Kit.fine("rule a count 1 of has x within 1; rule aa count 1 of has x within 1;", 2);
-        Kit.faulty("rule a count 1 of has x by u, u within 1;", 5, 30);
-        Kit.faulty("rule a count 1 of has x by u, v, u within 1;", 5, 33);
-        badCond("alert a", 5, 6);
-        badCond("alert b", 5, 6);
-        Kit.faulty("rule a count 1 of alert b within 1; rule b count 1 of has x within 1;", 5, 24);
-        Kit.fine("rule b count 1 of has x within 1; rule a count 1 of alert b within 1;", 2);
-        // the field of a distinct may stand behind by too, and a rule's name may be a field's
-        Kit.fine("rule u distinct 1 u of has u by u within 1;", 1);
-    }
-
-    private static void leastKindOfOneToken() {
-        Kit.faulty("rule a count 99999999999 of has x within 1;", 1, 13);
-        Kit.faulty("rule a count 1 of has x within 1; rule a! count 1", 5, 39);
-        Kit.faulty("rule a count 0! of has x", 3, 13);
-        Kit.faulty("rule a count 1 of has x by u, v, w, of within 1;", 2, 36);
-        Kit.faulty("rule a count 1 of has x by u, v, w, ! within 1;", 1, 36);
-        // the first along the text, whatever is wrong behind
-        Kit.faulty("rule a count 0 of ? within 0", 3, 13);
-        Kit.faulty("rule a count 1 of ? within 0", 1, 18);
+    private static void conditions() {
+        Kit.sentence(4, "2. RULES", "COND: BOTH { 'or' BOTH }. BOTH: ONE { 'and' ONE }. ONE: 'not' ONE | ( COND )");
+        Kit.faultyCond("", 2, 1);
+        Kit.faultyCond("has", 2, 4);
+        Kit.faultyCond("has of", 2, 4);
+        Kit.faultyCond("has \"x\"", 2, 4);
+        Kit.faultyCond("kind x", 2, 5);
+        Kit.faultyCond("kind != x", 2, 5);
+        Kit.faultyCond("kind = \"x\"", 2, 7);
+        Kit.faultyCond("kind = 1", 2, 7);
+        Kit.faultyCond("alert", 2, 6);
+        Kit.faultyCond("alert 1", 2, 6);
+        Kit.faultyCond("a", 2, 2);
+        Kit.faultyCond("a like 1", 2, 7);
+        Kit.faultyCond("a like b", 2, 7);
+        Kit.faultyCond("a in 1/2", 2, 5);
+        Kit.faultyCond("a in 1.2.3.4", 2, 13);
+        Kit.faultyCond("a in 1.2.3.4/x", 2, 13);
+        Kit.faultyCond("a = b", 2, 4);
+        Kit.faultyCond("a = has", 2, 4);
+        Kit.faultyCond("a =", 2, 4);
+        Kit.faultyCond("a like", 2, 7);
+        Kit.faultyCond("a <", 2, 4);
+        Kit.faultyCond("a = and has x", 2, 4);
+        Kit.faultyCond("a < \"x\"", 2, 4);
+        Kit.faultyCond("a >= 1.2.3.4", 2, 5);
+        Kit.faultyCond("a <= x", 2, 5);
+        Kit.faultyCond("1 = a", 2, 0);
+        Kit.faultyCond("(has x", 2, 7);
+        Kit.faultyCond("has x)", 2, 5);
+        Kit.faultyCond("()", 2, 1);
+        Kit.faultyCond("not", 2, 4);
+        Kit.faultyCond("has x and", 2, 10);
+        Kit.faultyCond("has x or or has y", 2, 9);
+        Kit.faultyCond("has x has y", 2, 6);
+        Kit.faultyCond("and has x", 2, 0);
     }
 
     private static void tooLong() {
+        Kit.sentence(4, TOO_LONG);
         String rule = "rule a count 1 of has x within 1;";
         Kit.fine(rule + " ".repeat(2000 - rule.length()), 1);
         Kit.faulty(rule + " ".repeat(2001 - rule.length()), 1, 2000);
@@ -336,12 +245,14 @@ public final class RulesTest {
 
     /** Wherever the token lies across place 2000: nothing is wrong ahead of it. */
     private static void fineAcross(String head, String token, String behind) {
+        Kit.sentence(4, TOO_LONG);
         for (int ahead = 1; ahead < token.length(); ahead++) {
             Kit.faulty(placed(head, 2000 - ahead, token + behind), 1, 2000);
         }
     }
 
     private static void faultyAcross(String head, String token, String behind, int kind) {
+        Kit.sentence(4, TOO_LONG);
         for (int ahead = 1; ahead < token.length(); ahead++) {
             Kit.faulty(placed(head, 2000 - ahead, token + behind), kind, 2000 - ahead);
         }
@@ -355,6 +266,7 @@ public final class RulesTest {
 
     /** Bytes that end() has cut off belong to no token. */
     private static void cutOff() {
+        Kit.sentence(4, TEXT);
         cut("rule", "x count 1", 2, 4);
         cut("rule a count 1000", "0 of", 2, 17);
         cut(BEGIN + "a = 1.2.3.25", "6 within", 2, 30);
@@ -374,7 +286,17 @@ public final class RulesTest {
         Kit.due("fault of " + kept, house.fault(), kind);
     }
 
+    private static void firstAndLastPlace() {
+        Kit.sentence(4, STAYS);
+        Kit.faulty("!", 1, 0);
+        Kit.faulty("a", 2, 0);
+        Kit.faulty(" ".repeat(1999) + "a", 2, 1999);
+        Kit.faulty("rule" + " ".repeat(1996), 2, 2000);
+        Kit.faulty("rule" + " ".repeat(1997), 1, 2000);
+    }
+
     private static void whatStays() {
+        Kit.sentence(4, STAYS);
         WatchHouse house = Kit.houseOf("rule a count 2 of has x within 10;rule b lack has x then has y within 3;");
         Kit.take(house, Kit.record(7, "k", "x", 1), Kit.record(0, "k", "x", 1), Kit.bytes(1));
         Kit.due("fault of the take", house.fault(), 2);
@@ -396,6 +318,7 @@ public final class RulesTest {
     }
 
     private static void whatIsForgotten() {
+        Kit.sentence(4, FORGOTTEN);
         WatchHouse house = Kit.houseOf("rule a count 2 of has x within 10;rule b lack has x then has y within 3;");
         Kit.take(house, Kit.record(7, "k", "x", 1), Kit.record(0, "k", "x", 1));
         house.pack(0);
@@ -418,5 +341,25 @@ public final class RulesTest {
         Kit.due("now", house.count(5), 0);
         Kit.due("time from 0 on", Kit.take(house, Kit.record(3, "k")), 1);
         Kit.due("its time", house.event(0, 0), 3);
+    }
+
+    private static void fourThousandAnew() {
+        Kit.sentence(4, FORGOTTEN);
+        String text = Kit.fillers(9);
+        byte[] x = Kit.record(0, "x");
+        WatchHouse house = Kit.houseOf(text);
+        Kit.fill(house, 400, x);
+        Kit.due("four thousand", house.count(1), 4000);
+        Kit.due("one too many", Kit.take(house, x), 0);
+        Kit.due("a bad text", Kit.rules(house, "rule"), -5);
+        Kit.due("behind a bad text it is too many still", Kit.take(house, x), 0);
+        Kit.due("the text anew", Kit.rules(house, text), 9);
+        Kit.due("none came yet", house.count(1), 0);
+        Kit.fill(house, 399, x);
+        Kit.due("ten may come", house.count(1), 3990);
+        Kit.due("they come of one", Kit.take(house, x, x), 1);
+        Kit.due("four thousand again", house.count(1), 4000);
+        Kit.due("the last one's number", house.event(3999, 3), 8);
+        Kit.none("none behind it", () -> house.event(4000, 0));
     }
 }
