@@ -399,6 +399,17 @@ public final class AnswersTest {
         held(house, 1, 0);
         house.pass(13);
         held(house, 0, 0);
+        // one of a key is found, then the other one is answered
+        Kit.take(house, x(15), x(5));
+        held(house, 2, 0);
+        house.pass(27);
+        held(house, 2, 0);
+        house.pass(28);
+        held(house, 1, 0);
+        Kit.take(house, y(6));
+        held(house, 0, 0);
+        Kit.take(house, x(0));
+        held(house, 1, 0);
     }
 
     private static void noRule() {

@@ -32,6 +32,8 @@ public final class LookEdgesTest {
     public static void main(String[] args) {
         keysThatLack();
         keysOfThree();
+        withoutBy();
+        whereItFinds();
         countUpToN();
         countWindow();
         countOfOneSecond();
@@ -40,6 +42,7 @@ public final class LookEdgesTest {
         distinctUpToN();
         distinctWindow();
         distinctOfMany();
+        distinctOfKeys();
         sumUpToN();
         sumOfGreatNumbers();
         sumWindow();
@@ -63,11 +66,14 @@ public final class LookEdgesTest {
         madeOfTheKey();
         madeInOrder();
         madeBelow();
+        nowIsTheLatest();
         nowBelow();
         nowOneByOne();
+        nowWhileLacksAreFound();
         fullOfRecords();
         fullOfMade();
         fullOfLacks();
+        fourThousandLacks();
         Kit.finish("LookEdgesTest");
     }
 
@@ -109,15 +115,45 @@ public final class LookEdgesTest {
 
     private static void keysOfThree() {
         Kit.sentence(7, LOOKING, KEY);
-        WatchHouse house = Kit.houseOf("rule a count 2 of kind = x by u, v, w within 9;rule b count 7 of kind = x within 9;");
+        WatchHouse house = Kit.houseOf("rule a count 2 of kind = x by u, v, w within 9;");
         Kit.take(house, Kit.record(0, "x", "u", 1, "v", 1, "w", 1), Kit.record(0, "x", "u", 2, "v", 1, "w", 1),
                 Kit.record(0, "x", "u", 1, "v", 2, "w", 1), Kit.record(0, "x", "u", 1, "v", 1, "w", 2),
                 Kit.record(0, "x", "u", 1, "v", 1, "w", "1"));
         Kit.due("all differ", house.count(3), 0);
         Kit.take(house, Kit.record(0, "x", "u", 1, "v", 1, "w", 2));
         latest(house, 1, 3);
-        Kit.take(house, Kit.record(0, "x"));
-        Kit.due("without by: all", house.rule(1, 1), 1);
+    }
+
+    private static void withoutBy() {
+        Kit.sentence(7, LOOKING, "In what follows EVENTS are those that the RULE has looked at and that have the same KEY"
+                + " (without by: all).");
+        WatchHouse house = Kit.houseOf("rule a count 3 of kind = x within 9;rule b count 2 of kind = x by f within 9;");
+        Kit.take(house, f(0, 1), f(0, 2), f(0, "1"));
+        Kit.due("three of any key, and none", house.rule(0, 1), 1);
+        Kit.due("no two of one key", house.rule(1, 1), 0);
+        Kit.take(house, x(0));
+        Kit.due("one without a key is of all", house.rule(0, 1), 2);
+        Kit.due("and of no key", house.rule(1, 1), 0);
+        Kit.take(house, f(0, 2));
+        Kit.due("two of one key", house.rule(1, 1), 1);
+    }
+
+    private static void whereItFinds() {
+        Kit.sentence(7, LOOKING, "At an EVENT e of which the COND holds (the last one of a chain, the first of a lack) the"
+                + " RULE FINDS");
+        WatchHouse house = Kit.houseOf("rule a count 1 of kind = x within 9;rule b distinct 1 f of kind = x within 9;rule c"
+                + " sum 1 f of kind = x within 9;rule d chain kind = x then kind = z within 9;rule e lack kind = x then kind = q"
+                + " within 9;");
+        Kit.take(house, f(0, 1), Kit.record(0, "y", "f", 2), y(0));
+        for (int r = 0; r < 3; r++) {
+            Kit.due("rule " + r + " finds at the first alone", house.rule(r, 1), 1);
+        }
+        Kit.due("a chain not at its first", house.rule(3, 1), 0);
+        Kit.take(house, Kit.record(0, "z"), y(0));
+        Kit.due("but at its last", house.rule(3, 1), 1);
+        house.pass(10);
+        Kit.due("a lack at its first", house.rule(4, 1), 1);
+        Kit.due("that is its event", house.alert(house.count(3) - 1, 3), 0);
     }
 
     private static void countUpToN() {
@@ -247,6 +283,20 @@ public final class LookEdgesTest {
         }
         latest(house, 1, 0);
         Kit.due("at the four hundredth", house.alert(0, 3), 399);
+    }
+
+    private static void distinctOfKeys() {
+        Kit.sentence(7, LOOKING, DISTINCT);
+        WatchHouse house = Kit.houseOf("rule a distinct 2 f of kind = x by u, v, w within 9;rule b distinct 2 u of kind = x by"
+                + " u within 9;");
+        Kit.take(house, Kit.record(0, "x", "f", 1, "u", 1, "v", 1, "w", 1), Kit.record(0, "x", "f", 2, "u", 1, "v", 1, "w", 2),
+                Kit.record(0, "x", "f", 1, "u", 1, "v", 1, "w", 1));
+        Kit.due("one value of each key", house.count(3), 0);
+        Kit.take(house, Kit.record(0, "x", "f", 2, "u", 1, "v", 1, "w", 1));
+        latest(house, 1, 0);
+        Kit.take(house, Kit.record(0, "x", "f", 3, "u", 1, "v", 1, "w", 2));
+        latest(house, 2, 1);
+        Kit.due("a field of the key itself has one value for each", house.rule(1, 1), 0);
     }
 
     private static void sumUpToN() {
@@ -586,6 +636,12 @@ public final class LookEdgesTest {
         Kit.packs("the second made", house, 2, Kit.record(0, "alert", "u", 7, "uu", "", "w", Kit.address(1, 2, 3, 4)));
         Kit.due("five letters", house.event(2, 1), 5);
         Kit.due("at its time", house.event(2, 0), 300);
+        // in whatever order the names stand behind by, a record has them in theirs
+        for (String by : new String[] {"u, v, w", "u, w, v", "v, u, w", "v, w, u", "w, u, v", "w, v, u"}) {
+            WatchHouse turned = Kit.houseOf("rule a count 1 of kind = x by " + by + " within 1;");
+            Kit.take(turned, Kit.record(0, "x", "u", 1, "v", 2, "w", 3));
+            Kit.packs("by " + by, turned, 1, Kit.record(0, "alert", "u", 1, "v", 2, "w", 3));
+        }
     }
 
     private static void madeInOrder() {
@@ -633,6 +689,20 @@ public final class LookEdgesTest {
         Kit.due("a does not look at it", last.rule(0, 1), 0);
     }
 
+    private static void nowIsTheLatest() {
+        Kit.sentence(9, LOOKING, "NOW is the TIME of the latest EVENT, or later by pass().");
+        WatchHouse house = Kit.houseOf("rule a lack kind = x then kind = y within 5;");
+        Kit.take(house, x(0));
+        Kit.due("at the first", house.count(5), 0);
+        Kit.take(house, x(3), x(0));
+        Kit.due("at the latest", house.count(5), 3);
+        house.pass(9);
+        Kit.due("later than the one that the lacks made", house.count(5), 9);
+        Kit.due("that was at", house.event(house.count(1) - 1, 0), 8);
+        Kit.take(house, x(6));
+        Kit.due("at the latest again", house.count(5), 9);
+    }
+
     private static void nowBelow() {
         Kit.sentence(8, LOOKING, NOW);
         WatchHouse house = Kit.houseOf("rule a lack kind = x then kind = y within 5;rule b count 1 of kind = q within 1;");
@@ -663,6 +733,24 @@ public final class LookEdgesTest {
             Kit.alert(house, i, told[i][0], told[i][1], told[i][2], told[i][2], 0);
         }
         Kit.due("now", house.count(5), 2000000000);
+    }
+
+    private static void nowWhileLacksAreFound() {
+        Kit.sentence(8, LOOKING, "then NOW is that TIME (and the EVENTS that they make come, each looked at by all RULES below,"
+                + " RULE by RULE); then it is t. Then an EVENT is looked at, RULE by RULE.");
+        WatchHouse house = Kit.houseOf("rule a lack kind = x then kind = y within 5;rule b count 2 of alert a within 4;"
+                + "rule c lack alert a then kind = q within 3;rule d count 1 of alert a or kind = w within 1;");
+        Kit.take(house, x(0), x(3), Kit.record(97, "w"));
+        // a at 5 and 8: at the second b counts both; c at 8 is found with a's, ahead of what these make
+        int[][] told = {{0, 5, 0}, {3, 5, 2}, {0, 8, 1}, {2, 8, 2}, {1, 8, 3}, {3, 8, 3}, {2, 11, 3}, {3, 100, 4}};
+        Kit.due("found in all", house.count(3), told.length);
+        for (int i = 0; i < told.length && i < house.count(3); i++) {
+            Kit.due("rule of alert " + i, house.alert(i, 0), told[i][0]);
+            Kit.due("time of alert " + i, house.alert(i, 1), told[i][1]);
+            Kit.due("event of alert " + i, house.alert(i, 3), told[i][2]);
+        }
+        Kit.due("the record's number", house.event(4, 3), -1);
+        Kit.due("then it is its time", house.count(5), 100);
     }
 
     private static void fullOfRecords() {
@@ -721,5 +809,29 @@ public final class LookEdgesTest {
         Kit.due("alerts", house.count(3), alerts + 3);
         Kit.due("now is passed all the same", house.count(5), 6);
         Kit.due("and may be passed again", house.pass(7), true);
+        WatchHouse last = Kit.houseOf("rule a lack kind = y then kind = z within 5;" + Kit.fillers(9));
+        Kit.take(last, y(0));
+        Kit.fill(last, 399, x(0));
+        Kit.fill(last, 8, Kit.record(0, "w"));
+        Kit.due("one may come, too", last.count(1), 3999);
+        Kit.due("what a lack ahead of a record makes is the last", Kit.take(last, Kit.record(6, "w")), 0);
+        Kit.due("it is there", last.event(3999, 3), 0);
+        Kit.due("the record is not, but now is its time", last.count(5), 6);
+        Kit.due("without a fault", last.fault(), 0);
+    }
+
+    private static void fourThousandLacks() {
+        Kit.sentence(8, LOOKING, FULL);
+        WatchHouse house = Kit.houseOf(Kit.fillers(9) + "rule z lack not has q then has q within 5;");
+        Kit.fill(house, 400, x(0));
+        Kit.due("all that can come wait", house.rule(9, 0), 4000);
+        int alerts = house.count(3);
+        house.pass(5);
+        Kit.due("at the sum", house.rule(9, 1), 0);
+        house.pass(6);
+        Kit.due("all are found", house.rule(9, 1), 4000);
+        Kit.due("none waits", house.rule(9, 0), 0);
+        Kit.due("all are alerts", house.count(3), alerts + 4000);
+        Kit.due("no more events come", house.count(1), 4000);
     }
 }

@@ -23,6 +23,8 @@ public final class RecordsTest {
         texts();
         addresses();
         sameValues();
+        fourThousandInALife();
+        wholeRecord();
         firstByte();
         timeLessThatAhead();
         orderOfNames();
@@ -233,6 +235,47 @@ public final class RecordsTest {
             Kit.take(house, Kit.record(0, "q", "f", values[k]));
             Kit.due("each is the same as itself", house.rule(0, 1), k + 1);
         }
+    }
+
+    private static void fourThousandInALife() {
+        Kit.sentence(7, EVENTS, "At most 4000 EVENTS come in a life.");
+        WatchHouse house = Kit.houseOf(Kit.fillers(9));
+        byte[] x = Kit.record(0, "x");
+        byte[] w = Kit.record(0, "w");
+        Kit.fill(house, 399, x);
+        Kit.fill(house, 9, w);
+        Kit.due("3999", house.count(1), 3999);
+        Kit.due("the 4000th", Kit.take(house, w), 1);
+        Kit.due("is there", house.event(3999, 1), 1);
+        Kit.due("the 4001st", Kit.take(house, w), 0);
+        Kit.due("is not", house.count(1), 4000);
+        WatchHouse made = Kit.houseOf(Kit.fillers(9));
+        Kit.fill(made, 399, x);
+        Kit.fill(made, 1, w);
+        Kit.due("nine may come", made.count(1), 3991);
+        Kit.due("one with nine made of it", Kit.take(made, x), 1);
+        Kit.due("of which eight came", made.count(1), 4000);
+        Kit.due("the eighth is the last", made.event(3999, 3), 7);
+    }
+
+    private static void wholeRecord() {
+        Kit.sentence(7, EVENTS, "how many letters the KIND has, these; how many FIELDS; of each, in the order of their NAMES"
+                + " (by bytes, what goes on behind): how many letters its NAME has, these, its SORT (0 INT, 1 TEXT, 2 ADDRESS),"
+                + " then of an INT v the UNSIGNED 2 v, or -2 v - 1 if v is below 0; of a TEXT how many bytes, these; of an"
+                + " ADDRESS its four bytes; at the end the CHECK of all these");
+        // byte for byte, with the check that the runs under shared/tests have
+        byte[] whole = Kit.bytes(229, 3, 2, 'o', 'k', 3, 1, 'n', 0, 9, 1, 't', 1, 2, 'h', 'i', 1, 'z', 2, 1, 2, 3, 4, 87);
+        Kit.comes("all sorts", whole);
+        WatchHouse house = Kit.houseOf("rule a count 1 of kind = ok by n, t, z within 1;");
+        Kit.take(house, whole);
+        int[][] want = {{0, -5}, {1, 2, 'h', 'i'}, {2, 0x01020304}};
+        for (int k = 0; k < want.length; k++) {
+            for (int what = 0; what < want[k].length; what++) {
+                Kit.due("key(0, " + k + ", " + what + ")", house.key(0, k, what), want[k][what]);
+            }
+        }
+        Kit.due("letters of its kind", house.event(0, 1), 2);
+        Kit.due("its fields", house.event(0, 2), 3);
     }
 
     private static void firstByte() {

@@ -14,13 +14,16 @@ public final class RulesTest {
         howMany();
         fineTexts();
         grammar();
+        whats();
         conditions();
+        values();
         tooLong();
         wordsAcross();
         numbersAcross();
         addressesAcross();
         textsAcross();
         signsAcross();
+        toTheEndOfAFullTape();
         cutOff();
         firstAndLastPlace();
         whatStays();
@@ -87,6 +90,20 @@ public final class RulesTest {
         Kit.faulty("a", 2, 0);
         Kit.faulty("rule count count 1 of has x within 1;", 2, 5);
         Kit.faulty("rule \"a\" count 1 of has x within 1;", 2, 5);
+        Kit.faulty("rule a count 1 of has x by within 1;", 2, 27);
+        Kit.faulty("rule a count 1 of has x by u v within 1;", 2, 29);
+        Kit.faulty("rule a count 1 of has x by u, within 1;", 2, 30);
+        Kit.faulty("rule a count 1 of has x by 1 within 1;", 2, 27);
+        Kit.faulty("rule a count 1 of has x within x;", 2, 31);
+        Kit.faulty("rule a count 1 of has x within 1 quiet;", 2, 38);
+        Kit.faulty("rule a count 1 of has x quiet 1 within 1;", 2, 24);
+        Kit.faulty("rule a count 1 of has x within 1 by u;", 2, 33);
+        Kit.faulty("rule a count 1 of has x within 1;;", 2, 33);
+    }
+
+    private static void whats() {
+        Kit.sentence(4, "2. RULES", "WHAT: 'count' NUMBER 'of' COND | 'distinct' NUMBER NAME 'of' COND | 'sum' NUMBER NAME 'of'"
+                + " COND | 'chain' COND { 'then' COND } [ 'unless' COND ]");
         Kit.faulty("rule a of 1 of has x within 1;", 2, 7);
         Kit.faulty("rule a within 1;", 2, 7);
         Kit.faulty("rule a by u within 1;", 2, 7);
@@ -104,29 +121,10 @@ public final class RulesTest {
         Kit.faulty("rule a lack has x within 1;", 2, 18);
         Kit.faulty("rule a lack has x then has y then has z within 1;", 2, 29);
         Kit.faulty("rule a lack has x then has y unless has z within 1;", 2, 29);
-        Kit.faulty("rule a count 1 of has x by within 1;", 2, 27);
-        Kit.faulty("rule a count 1 of has x by u v within 1;", 2, 29);
-        Kit.faulty("rule a count 1 of has x by u, within 1;", 2, 30);
-        Kit.faulty("rule a count 1 of has x by 1 within 1;", 2, 27);
-        Kit.faulty("rule a count 1 of has x within x;", 2, 31);
-        Kit.faulty("rule a count 1 of has x within 1 quiet;", 2, 38);
-        Kit.faulty("rule a count 1 of has x quiet 1 within 1;", 2, 24);
-        Kit.faulty("rule a count 1 of has x within 1 by u;", 2, 33);
-        Kit.faulty("rule a count 1 of has x within 1;;", 2, 33);
     }
 
-    private static void conditions() {
-        Kit.sentence(4, "2. RULES", "COND: BOTH { 'or' BOTH }. BOTH: ONE { 'and' ONE }. ONE: 'not' ONE | ( COND )");
-        Kit.faultyCond("", 2, 1);
-        Kit.faultyCond("has", 2, 4);
-        Kit.faultyCond("has of", 2, 4);
-        Kit.faultyCond("has \"x\"", 2, 4);
-        Kit.faultyCond("kind x", 2, 5);
-        Kit.faultyCond("kind != x", 2, 5);
-        Kit.faultyCond("kind = \"x\"", 2, 7);
-        Kit.faultyCond("kind = 1", 2, 7);
-        Kit.faultyCond("alert", 2, 6);
-        Kit.faultyCond("alert 1", 2, 6);
+    private static void values() {
+        Kit.sentence(4, "2. RULES", "NAME 'like' TEXT | NAME 'in' ADDRESS / NUMBER | NAME CMP VALUE.");
         Kit.faultyCond("a", 2, 2);
         Kit.faultyCond("a like 1", 2, 7);
         Kit.faultyCond("a like b", 2, 7);
@@ -143,6 +141,20 @@ public final class RulesTest {
         Kit.faultyCond("a >= 1.2.3.4", 2, 5);
         Kit.faultyCond("a <= x", 2, 5);
         Kit.faultyCond("1 = a", 2, 0);
+    }
+
+    private static void conditions() {
+        Kit.sentence(4, "2. RULES", "COND: BOTH { 'or' BOTH }. BOTH: ONE { 'and' ONE }. ONE: 'not' ONE | ( COND )");
+        Kit.faultyCond("", 2, 1);
+        Kit.faultyCond("has", 2, 4);
+        Kit.faultyCond("has of", 2, 4);
+        Kit.faultyCond("has \"x\"", 2, 4);
+        Kit.faultyCond("kind x", 2, 5);
+        Kit.faultyCond("kind != x", 2, 5);
+        Kit.faultyCond("kind = \"x\"", 2, 7);
+        Kit.faultyCond("kind = 1", 2, 7);
+        Kit.faultyCond("alert", 2, 6);
+        Kit.faultyCond("alert 1", 2, 6);
         Kit.faultyCond("(has x", 2, 7);
         Kit.faultyCond("has x)", 2, 5);
         Kit.faultyCond("()", 2, 1);
@@ -262,6 +274,25 @@ public final class RulesTest {
 
     private static String placed(String head, int place, String rest) {
         return head + " ".repeat(place - head.length()) + rest;
+    }
+
+    /** A token may go on to the last byte of all that a tape can hold: 101 bytes from place 1999 on. */
+    private static void toTheEndOfAFullTape() {
+        Kit.sentence(4, TOO_LONG);
+        toTheEnd("1".repeat(101), 1, 1999);
+        toTheEnd("-" + "1".repeat(100), 1, 1999);
+        toTheEnd("1.".repeat(50) + "1", 1, 1999);
+        toTheEnd("a".repeat(101), 1, 1999);
+        toTheEnd("\"" + "x".repeat(100), 1, 1999);
+        toTheEnd("<".repeat(101), 2, 1999);
+        toTheEnd("1" + " ".repeat(99) + "1", 1, 2000);
+        toTheEnd("\"\"" + " ".repeat(98) + "!", 1, 2000);
+    }
+
+    private static void toTheEnd(String bytes, int kind, int place) {
+        String text = placed(BEGIN + "a = ", 1999, bytes);
+        Kit.due("bytes of a full tape", text.length(), 2100);
+        Kit.faulty(text, kind, place);
     }
 
     /** Bytes that end() has cut off belong to no token. */

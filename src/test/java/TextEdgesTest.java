@@ -38,6 +38,7 @@ public final class TextEdgesTest {
         fiveConds();
         lackHasTwo();
         twelveOthers();
+        twelveOthersInEachCond();
         notEndsWithItsOne();
         anyWordBehindKind();
         signsOfNumbers();
@@ -384,6 +385,20 @@ public final class TextEdgesTest {
         Kit.take(house, Kit.record(0, "k", "x", 1, "z", 1), Kit.record(0, "k", "y", 1, "z", 1), Kit.record(0, "k", "z", 1));
         Kit.due("thirteen nots", house.rule(0, 1), 2);
         Kit.due("thirteen (", house.rule(1, 1), 2);
+    }
+
+    private static void twelveOthersInEachCond() {
+        Kit.sentence(4, RULES, "( and 'not' (up to the end of its ONE) lie in 12 others at most.");
+        String[] heads = {"count 1 of ", "distinct 1 f of ", "sum 1 f of ", "chain ", "chain has x then ",
+            "chain has x then has x then has x then has x then ", "chain has x unless ", "lack ", "lack has x then "};
+        for (String head : heads) {
+            String begin = "rule a " + head;
+            String tail = head.equals("lack ") ? " then has y within 1;" : " within 1;";
+            Kit.fine(begin + "(".repeat(13) + "has x" + ")".repeat(13) + tail, 1);
+            Kit.faulty(begin + "(".repeat(14) + "has x" + ")".repeat(14) + tail, 4, begin.length() + 13);
+            Kit.fine(begin + "not ".repeat(13) + "has x" + tail, 1);
+            Kit.faulty(begin + "not ".repeat(14) + "has x" + tail, 4, begin.length() + 52);
+        }
     }
 
     private static void notEndsWithItsOne() {
