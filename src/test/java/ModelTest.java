@@ -11,6 +11,8 @@ public final class ModelTest {
     private static final String[] NAMES = {"a", "ab", "b", "user"};
     private static final String[] KINDS = {"x", "y", "z", "alert", "rule"};
     private static final String[] TEXTS = {"", "a", "ab", "aab", "b*", "a?b", "ba"};
+    private static final int TIME_MOST = 2000000000;
+    private static final int WIDE = 33333;
     private static final String[] PATTERNS = {"*", "a*", "?", "*b", "a?b", "", "*a*", "a*b*", "**", "b?"};
 
     private final Random random;
@@ -19,10 +21,13 @@ public final class ModelTest {
     private final StringBuilder text = new StringBuilder();
     private Model model;
     private final int seed;
+    /** How many seconds a small step of time has: with many, windows are as wide as they may be. */
+    private final int scale;
 
     private ModelTest(int seed, Random random) {
         this.seed = seed;
         this.random = random;
+        scale = seed % 7 == 3 ? WIDE : 1;
     }
 
     /** A text of some rules. */
@@ -63,6 +68,9 @@ public final class ModelTest {
         makeRules(1 + random.nextInt(seed % 10 == 0 ? 12 : 4));
         due("rules()", Kit.rules(house, text.toString()), rules.size());
         model = new Model(rules);
+        if (seed % 6 == 5) {
+            passTo(TIME_MOST - random.nextInt(100) * scale);
+        }
         int steps = 5 + random.nextInt(40);
         for (int k = 0; k < steps && Kit.wrong == 0; k++) {
             if (random.nextInt(6) == 0) {
@@ -76,12 +84,16 @@ public final class ModelTest {
     }
 
     private int smallTime() {
-        return random.nextInt(3) == 0 ? random.nextInt(12) : random.nextInt(3);
+        int steps = random.nextInt(3) == 0 ? random.nextInt(12) : random.nextInt(3);
+        return steps * scale + (scale > 1 ? random.nextInt(2) : 0);
     }
 
     private void passTime() {
-        int time = model.now + smallTime() - (random.nextInt(8) == 0 ? 3 : 0);
-        boolean good = time >= model.now;
+        passTo(model.now + smallTime() - (random.nextInt(8) == 0 ? 3 : 0));
+    }
+
+    private void passTo(int time) {
+        boolean good = time >= model.now && time <= TIME_MOST;
         due("pass(" + time + ")", house.pass(time) ? 1 : 0, good ? 1 : 0);
         if (good) {
             model.advance(time);
@@ -110,7 +122,7 @@ public final class ModelTest {
             }
             byte[] record = Kit.recordOf(after, e.kind, e.fields);
             parts.add(record);
-            if (fault == 0 && e.time < model.now) {
+            if (fault == 0 && (e.time < model.now || e.time > TIME_MOST)) {
                 fault = 3;
                 place = size + 1;
             } else if (fault == 0) {
@@ -228,8 +240,8 @@ public final class ModelTest {
         for (int k = 0; k < by && random.nextInt(4) != 0; k++) {
             rule.by.add(names.remove(random.nextInt(names.size())));
         }
-        rule.within = 1 + random.nextInt(random.nextBoolean() ? 6 : 30);
-        rule.quiet = random.nextBoolean() ? 0 : random.nextInt(15);
+        rule.within = (1 + random.nextInt(random.nextBoolean() ? 6 : 30)) * scale;
+        rule.quiet = random.nextBoolean() ? 0 : random.nextInt(15) * scale;
         return rule;
     }
 
